@@ -23,7 +23,6 @@ public final class RuleNet {
     private final int[] fitting;
     private int fittingCount;
     private boolean isAsked;
-    private int faultPlace;
 
     public RuleNet() {
         heads = new Heads();
@@ -41,7 +40,6 @@ public final class RuleNet {
         findings = new Findings(matcher, theTree, spareAnswer);
         net = new Net(heads, theTree, patterns);
         fitting = new int[MOST_PATTERNS];
-        faultPlace = NONE;
     }
 
     // ---- kinds, heads, texts
@@ -99,7 +97,7 @@ public final class RuleNet {
         if (p == NONE) {
             return FULL;
         }
-        int fault = readTape(true, PATTERN_NODES);
+        int fault = reader.read(true, PATTERN_NODES);
         if (fault != NO_FAULT) {
             return FAULT_BASE - fault;
         }
@@ -130,7 +128,7 @@ public final class RuleNet {
     }
 
     public int place() {
-        return faultPlace;
+        return reader.place;
     }
 
     public int count(int what) {
@@ -395,15 +393,8 @@ public final class RuleNet {
         findings.sought = null;
     }
 
-    private int readTape(boolean asPattern, int room) {
-        int fault = reader.read(asPattern, room);
-        faultPlace = fault == NO_FAULT ? NONE : reader.place;
-        tape.length = 0;
-        return fault;
-    }
-
     private int replaceInTree(int node, int gone) {
-        int fault = readTape(false, TREE_NODES - (theTree.count - gone));
+        int fault = reader.read(false, TREE_NODES - (theTree.count - gone));
         if (fault != NO_FAULT) {
             return FAULT_BASE - fault;
         }
@@ -786,7 +777,7 @@ public final class RuleNet {
         }
     }
 
-    /** Reads THE TAPE into the draft, up to the first FAULT. */
+    /** Takes THE TAPE into the draft, up to the first FAULT. */
     private static final class Reader {
         static final int MOST_DIGITS = 18, MOST_WITHIN = 12;
         static final int MISPLACED = 1, NO_HEAD = 2, NO_VALUE = 3, TOO_MANY = 4, TOO_DEEP = 5, WRONG_PARTS = 6;
@@ -805,8 +796,10 @@ public final class RuleNet {
             this.heads = heads;
             this.text = text;
             this.draft = draft;
+            this.place = NONE;
         }
 
+        /** The number of the FAULT, whose place is kept; the text is empty then in any case. */
         int read(boolean patternWanted, int nodesAllowed) {
             asPattern = patternWanted;
             room = nodesAllowed;
@@ -820,6 +813,7 @@ public final class RuleNet {
                     fail(MISPLACED, pos);
                 }
             }
+            text.length = 0;
             return fault;
         }
 
@@ -830,23 +824,26 @@ public final class RuleNet {
         }
 
         private void skipBlanks() {
-            while (pos < text.length && (text.byteAt(pos) == ' ' || text.byteAt(pos) == '\n')) {
+            while (pos < text.length && (text.bytes[pos] == ' ' || text.bytes[pos] == '\n')) {
                 pos++;
             }
-        }
-
-        private boolean isDigit(int i) {
-            int b = text.byteAt(i);
-            return b >= '0' && b <= '9';
         }
 
         /** Where the digits from a place on end. */
         private int endOfDigits(int from) {
             int end = from;
-            while (end < text.length && isDigit(end)) {
+            while (end < text.length && text.bytes[end] >= '0' && text.bytes[end] <= '9') {
                 end++;
             }
             return end;
+        }
+
+        private void takeDigits(int from, int end) {
+            value = 0;
+            for (int i = from; i < end && i < text.length; i++) {
+                value = value * 10 + (text.bytes[i] - '0');
+            }
+            pos = end;
         }
 
         /** within tells how many ( .. and ! are open around the node. */
@@ -859,7 +856,7 @@ public final class RuleNet {
             if (b >= 'a' && b <= 'z') {
                 return readHead(b - 'a', within);
             }
-            if (b == '-' || isDigit(pos)) {
+            if (b == '-' || b >= '0' && b <= '9') {
                 return readNumberNode();
             }
             if (asPattern && b == '?') {
@@ -874,21 +871,24 @@ public final class RuleNet {
             return fail(MISPLACED, pos);
         }
 
-        private boolean addNode(int sort) {
-            if (draft.count >= room || draft.add(sort) == NONE) {
-                return fail(TOO_MANY, pos);
+        /** The new node's number; NONE: it is one too many, and that is the FAULT. */
+        private int addNode(int sort, int start) {
+            int n = draft.count < room ? draft.add(sort) : NONE;
+            if (n == NONE) {
+                fail(TOO_MANY, start);
             }
-            return true;
+            return n;
         }
 
         private boolean readHead(int head, int within) {
             if (!heads.hasHead(head)) {
                 return fail(NO_HEAD, pos);
             }
-            if (!addNode(Nodes.HEAD)) {
+            int n = addNode(Nodes.HEAD, pos);
+            if (n == NONE) {
                 return false;
             }
-            draft.head[draft.count - 1] = head;
+            draft.head[n] = head;
             pos++;
             skipBlanks();
             boolean opens = text.byteAt(pos) == '(';
@@ -923,111 +923,8 @@ public final class RuleNet {
             return true;
         }
 
-        private boolean readNumberNode() {
-            if (hasTooManyDigits()) {
-                return fail(NO_VALUE, pos);
-            }
-            if (!addNode(Nodes.NUMBER) || !readNumber()) {
-                return false;
-            }
-            draft.number[draft.count - 1] = value;
-            return true;
-        }
-
-        private boolean hasTooManyDigits() {
-            int digits = text.byteAt(pos) == '-' ? pos + 1 : pos;
-            return endOfDigits(digits) - digits > MOST_DIGITS;
-        }
-
-        private boolean readNumber() {
-            if (hasTooManyDigits()) {
-                return fail(NO_VALUE, pos);
-            }
-            boolean below = text.byteAt(pos) == '-';
-            if (below) {
-                pos++;
-            }
-            if (!readDigits()) {
-                return false;
-            }
-            value = below ? -value : value;
-            return true;
-        }
-
-        private boolean readDigits() {
-            int end = endOfDigits(pos);
-            if (end == pos) {
-                return fail(MISPLACED, pos);
-            }
-            if (end - pos > MOST_DIGITS) {
-                return fail(NO_VALUE, pos);
-            }
-            value = 0;
-            for (; pos < end; pos++) {
-                value = value * 10 + (text.byteAt(pos) - '0');
-            }
-            return true;
-        }
-
-        private boolean readHole() {
-            if (!addNode(Nodes.HOLE)) {
-                return false;
-            }
-            int hole = draft.count - 1;
-            pos++;
-            if (isDigit(pos)) {
-                draft.name[hole] = text.byteAt(pos) - '0';
-                pos++;
-            }
-            skipBlanks();
-            if (text.byteAt(pos) == ':' && !readKind(hole)) {
-                return false;
-            }
-            skipBlanks();
-            return text.byteAt(pos) != '[' || readSpan(hole);
-        }
-
-        private boolean readKind(int hole) {
-            pos++;
-            skipBlanks();
-            int start = pos;
-            if (!readDigits()) {
-                return false;
-            }
-            if (!heads.hasKind(value)) {
-                return fail(NO_VALUE, start);
-            }
-            draft.kind[hole] = (int) value;
-            return true;
-        }
-
-        private boolean readSpan(int hole) {
-            draft.spanned[hole] = true;
-            if (!readSpanNumber('~')) {
-                return false;
-            }
-            draft.number[hole] = value;
-            if (!readSpanNumber(']')) {
-                return false;
-            }
-            draft.last[hole] = value;
-            pos++;
-            return true;
-        }
-
-        /** From the sign ahead of a NUMBER on to the sign that is due behind it. */
-        private boolean readSpanNumber(int behind) {
-            pos++;
-            skipBlanks();
-            if (!readNumber()) {
-                return false;
-            }
-            skipBlanks();
-            return text.byteAt(pos) == behind || fail(MISPLACED, pos);
-        }
-
         private boolean readOver(int sort, int within) {
-            if (!addNode(sort)) {
+            if (addNode(sort, pos) == NONE) {
                 return false;
             }
             if (within >= MOST_WITHIN) {
@@ -1041,6 +938,97 @@ public final class RuleNet {
                 pos++;
             }
             return readNode(within + 1);
+        }
+
+        private boolean readNumberNode() {
+            int start = pos;
+            boolean isRead = readNumber();
+            if (fault == NO_VALUE) {
+                return false;
+            }
+            // That it is one too many is a FAULT at its first byte, ahead of what is wrong behind a -.
+            int n = addNode(Nodes.NUMBER, start);
+            if (n == NONE || !isRead) {
+                return false;
+            }
+            draft.number[n] = value;
+            return true;
+        }
+
+        private boolean readNumber() {
+            boolean isNegative = text.byteAt(pos) == '-';
+            int first = isNegative ? pos + 1 : pos;
+            int end = endOfDigits(first);
+            if (end - first > MOST_DIGITS) {
+                return fail(NO_VALUE, pos);
+            }
+            if (end == first) {
+                return fail(MISPLACED, first);
+            }
+            takeDigits(first, end);
+            value = isNegative ? -value : value;
+            return true;
+        }
+
+        private boolean readHole() {
+            int hole = addNode(Nodes.HOLE, pos);
+            if (hole == NONE) {
+                return false;
+            }
+            pos++;
+            int b = text.byteAt(pos);
+            if (b >= '0' && b <= '9') {
+                draft.name[hole] = b - '0';
+                pos++;
+            }
+            skipBlanks();
+            if (text.byteAt(pos) == ':' && !readKind(hole)) {
+                return false;
+            }
+            skipBlanks();
+            return text.byteAt(pos) != '[' || readSpan(hole);
+        }
+
+        private boolean readKind(int hole) {
+            pos++;
+            skipBlanks();
+            int first = pos;
+            int end = endOfDigits(first);
+            if (end == first) {
+                return fail(MISPLACED, first);
+            }
+            if (end - first > MOST_DIGITS) {
+                return fail(NO_VALUE, first);
+            }
+            takeDigits(first, end);
+            if (!heads.hasKind(value)) {
+                return fail(NO_VALUE, first);
+            }
+            draft.kind[hole] = (int) value;
+            return true;
+        }
+
+        private boolean readSpan(int hole) {
+            draft.spanned[hole] = true;
+            if (!passSign('[') || !readNumber()) {
+                return false;
+            }
+            draft.number[hole] = value;
+            if (!passSign('~') || !readNumber()) {
+                return false;
+            }
+            draft.last[hole] = value;
+            return passSign(']');
+        }
+
+        private boolean passSign(int sign) {
+            skipBlanks();
+            if (text.byteAt(pos) != sign) {
+                return fail(MISPLACED, pos);
+            }
+            pos++;
+            skipBlanks();
+            return true;
         }
     }
 
@@ -1089,7 +1077,7 @@ public final class RuleNet {
             for (int name = 0; name < NAMES; name++) {
                 filled[name] = NONE;
             }
-            walkFrom(0, node, WHOLE, 0);
+            walk(chain(0, node, WHOLE), 1);
         }
 
         private int chain(int part, int node, int next) {
