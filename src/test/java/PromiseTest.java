@@ -422,6 +422,8 @@ public final class PromiseTest {
         duePrinted("\nc\n(\n?\n:\n1\n,\n..\n!\na\n)\n", "c(?:1,..!a)");
         duePrinted("?1[1~2]", "?1[1~2]");
         duePrinted("?9", "?9");
+        duePrinted("?:000000000000000001", "?:1");
+        duePrinted("?[-999999999999999999~999999999999999999]", "?[-999999999999999999~999999999999999999]");
         duePrinted("....a", "....a");
         duePrinted("!!a", "!!a");
     }
@@ -630,6 +632,7 @@ public final class PromiseTest {
         dueSteps("again with a span", 4, "c(?1,?1)", "c(?1,?1[1~2])");
         dueSteps("again holes count, too", 6, "g(?1,?1,?2,?2)", "g(?3,?3,?4,?3)");
         dueSteps("heads", 3, "a", "b(?)", "a");
+        dueSteps("holes behind spans", 3, "?[1~2]", "?", "?[1~5]", "?");
     }
 
     private static void promise13() {
@@ -641,6 +644,12 @@ public final class PromiseTest {
         for (int what = 0; what < 6; what++) {
             due("13: told " + what, x.told(p, what), told[what]);
             due("13: told " + what, x.told(q, what), toldOther[what]);
+        }
+        x.drop(p);
+        due("13: a number used again", pattern(x, 2, "c(?5,?5)"), p);
+        int[] toldAnew = {2, 3, 1, 2, 1, 0};
+        for (int what = 0; what < 6; what++) {
+            due("13: told anew " + what, x.told(p, what), toldAnew[what]);
         }
         due("13: outside", x.told(p, 6), OUTSIDE);
         due("13: outside", x.told(p, -1), OUTSIDE);
@@ -786,6 +795,11 @@ public final class PromiseTest {
         due("18: none", x.fillings(2), 0);
         due("18: all nodes", x.fillings(3), 5);
         due("18: like ones once", x.fillings(4), 1);
+        pattern(x, 0, "..?0");
+        x.ask();
+        due("18: unlike in name 0 alone", x.fillings(5), 5);
+        x.drop(5);
+        x.ask();
         due("18: unknown", x.fillings(LOW), UNKNOWN);
         tree(x, "7");
         due("18: nothing asked", x.fillings(0), STATE);
@@ -886,6 +900,17 @@ public final class PromiseTest {
         due("20: not not", tries("!!7", "b(7)"), 1 + 1 + 2 + 1 + 1);
         due("20: not, with orders", tries("!d(1,2)", "d(2,1)"), 1 + 1 + 1 + 2);
         due("20: not, then further", tries("c(!7,1)", "c(2,1)"), 1 + 2 + 1);
+        due("20: one order of no parts", tries("c(h,7)", "c(h,7)"), 3);
+        String g = "g(1,2,3,4)";
+        String most = "g(" + g + "," + g + "," + g + ",g(1,2,3,b(b(b(4)))))";
+        due("20: all of 24 nodes", tries(most, most), 24);
+        due("20: all of 24 nodes fit", fits(most, most), 1);
+        x = usual();
+        x.head(0, 1, true);
+        pattern(x, 0, "c(i(?1),7)");
+        tree(x, "c(i(1),7)");
+        due("20: one order of one part", x.ask(), 1);
+        due("20: one order of one part", x.asked(0, 0), 4);
     }
 
     private static void promise20Spent() {
@@ -1158,6 +1183,8 @@ public final class PromiseTest {
         dueClash("?[1~5]", "6", 0);
         dueClash("?[1~5]", "a", 0);
         dueClash("?[3~1]", "?", 0);
+        dueClash("?[-5~-3]", "?", 1);
+        dueClash("?[-5~-3]", "?[-9~-4]", 1);
         dueClash("?[3~1]", "?[1~3]", 0);
         dueClash("?:1[1~3]", "?", 0);
         dueClash("?:1", "?[1~3]", 0);
@@ -1184,6 +1211,11 @@ public final class PromiseTest {
         due("26: no heads of the kind", x.clash(0, 0), 0);
         x.head(1, 2, true);
         due("26: a loose head is one", x.clash(0, 0), 1);
+        x = new RuleNet();
+        x.kind(0);
+        x.head(1, 0, false);
+        pattern(x, 0, "?:1");
+        due("26: the first head is one", x.clash(0, 0), 1);
     }
 
     // ---- what comes out
