@@ -235,13 +235,17 @@ public final class RuleNet {
 
     public int filling(int p, int f, int n) {
         Pattern pattern = patternOf(p);
-        if (pattern == null || isAsked && !pattern.answer.has(f)) {
+        if (pattern == null) {
             return UNKNOWN;
         }
-        if (n < 0 || n >= NAMES) {
-            return OUTSIDE;
+        // The document puts STATE ahead of the FILLING, and with it ahead of the NAME behind that.
+        if (!isAsked) {
+            return STATE;
         }
-        return isAsked ? pattern.answer.nodeOf(f, n) : STATE;
+        if (!pattern.answer.has(f)) {
+            return UNKNOWN;
+        }
+        return n >= 0 && n < NAMES ? pattern.answer.nodeOf(f, n) : OUTSIDE;
     }
 
     public int asked(int p, int what) {

@@ -676,12 +676,11 @@ final class Model {
         if (patternOf(p) == null) {
             return UNKNOWN;
         }
-        boolean outside = n < 0 || n > 9;
         if (fits == null) {
-            return outside ? OUTSIDE : STATE;
+            return STATE;
         }
         List<List<Integer>> all = new ArrayList<>(patterns[p].asked.fillings);
-        return f < 0 || f >= all.size() ? UNKNOWN : outside ? OUTSIDE : all.get(f).get(n);
+        return f < 0 || f >= all.size() ? UNKNOWN : n < 0 || n > 9 ? OUTSIDE : all.get(f).get(n);
     }
 
     int asked(int p, int what) {

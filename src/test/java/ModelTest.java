@@ -332,11 +332,12 @@ public final class ModelTest {
             int what = pick(4) - pick(20) / 19;
             same("asked " + p + " " + what, x.asked(p, what), m.asked(p, what));
             int f = pick(Math.max(0, m.fillings(p)) + 1) - pick(30) / 29;
-            boolean stray = pick(8) == 0;
             int end = m.fillings(p) > 0 ? 3 + pick(3) : 1;
-            for (int n = stray ? pick(13) - 1 : 0; n < end; n++) {
+            for (int n = 0; n < end; n++) {
                 same("filling " + p + " " + f + " " + n, x.filling(p, f, n), m.filling(p, f, n));
             }
+            int stray = pick(13) - 1;
+            same("filling " + p + " " + f + " " + stray, x.filling(p, f, stray), m.filling(p, f, stray));
             int node = pick(m.count(3) + 1);
             same("at " + p + " " + node, x.at(p, node), m.at(p, node));
             for (int i = pick(5) - 1; i < 3; i++) {

@@ -812,7 +812,13 @@ public final class PromiseTest {
         due("19: nothing asked", x.filling(0, 0, 0), STATE);
         due("19: nothing asked, ahead of the filling", x.filling(0, 99, 0), STATE);
         due("19: nothing asked, ahead of the filling", x.filling(0, -1, 0), STATE);
+        due("19: nothing asked, ahead of the name", x.filling(0, 0, -1), STATE);
+        due("19: nothing asked, ahead of the name", x.filling(0, 0, 10), STATE);
+        due("19: nothing asked, ahead of filling and name", x.filling(0, 99, HIGH), STATE);
+        due("19: nothing asked, the pattern ahead", x.filling(1, 99, 10), UNKNOWN);
+        due("19: nothing asked, the pattern ahead", x.filling(-1, 0, -1), UNKNOWN);
         tree(x, "e(a,7,a)");
+        due("19: a tree, but nothing asked", x.filling(0, 0, LOW), STATE);
         x.ask();
         int[][] due = {{1, 2}, {2, 1}, {2, 3}, {3, 2}};
         for (int f = 0; f < due.length; f++) {
@@ -826,6 +832,10 @@ public final class PromiseTest {
         due("19: outside", x.filling(0, 0, 10), OUTSIDE);
         due("19: outside", x.filling(0, 0, -1), OUTSIDE);
         due("19: unknown pattern ahead of outside", x.filling(7, 0, 10), UNKNOWN);
+        due("19: unknown filling ahead of outside", x.filling(0, 4, 10), UNKNOWN);
+        due("19: unknown filling ahead of outside", x.filling(0, -1, -1), UNKNOWN);
+        tree(x, "e(a,7,7)");
+        due("19: no more asked, ahead of the name", x.filling(0, 0, 10), STATE);
         firstChoicesGoSlowest();
     }
 
