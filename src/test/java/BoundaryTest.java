@@ -36,6 +36,7 @@ public final class BoundaryTest {
         promise16Orders();
         promise16Nodes();
         promise17();
+        promise17Stays();
         promise18();
         promise19();
         promise20();
@@ -741,6 +742,34 @@ public final class BoundaryTest {
             Due.is("17: RANK 1000, by numbers", p.x().fit(i), 21 + 2 * (i - 30));
         }
         Due.is("17: not so many", p.x().fit(40), NONE);
+    }
+
+    /** Only pattern(), drop(), tree() and change() make that nothing is ASKED, and only if they are taken. */
+    private static void promise17Stays() {
+        Call[] others = {x -> x.kind(0), x -> x.isUnder(0, 0), x -> x.head(0, 0, true), x -> x.feed(0, 0, 0, 0, 0),
+            x -> x.cut(0), RuleNet::place, x -> x.count(5), x -> x.told(0, 0), x -> x.node(0, 0), x -> x.alike(0, 0),
+            RuleNet::ask, x -> x.fit(9), x -> x.fillings(1), x -> x.filling(0, 0, 0), x -> x.asked(0, 0),
+            x -> x.at(1, 1), x -> x.found(1, 0), x -> x.looks(0), x -> x.parts(0, 0), x -> x.shared(0, 2),
+            x -> x.clash(0, 0), x -> x.print(0), x -> x.printNode(0), x -> x.out(0), RuleNet::back};
+        Probe p = askedOnce();
+        for (int i = 0; i < others.length; i++) {
+            Due.is("17: a call that is no refusal, " + i, others[i].on(p.x()) > -1001 ? 1 : 0, 1);
+            Due.is("17: what was ASKED stays, " + i, p.x().fit(0), 4);
+            Due.is("18: what was ASKED stays, " + i, p.x().fillings(4), 6);
+            Due.is("19: what was ASKED stays, " + i, p.x().filling(0, 0, 2), 4);
+            Due.is("20: what was ASKED stays, " + i, p.x().asked(4, 0), 7);
+        }
+        Call[] taking = {x -> x.pattern(0), x -> x.drop(2), RuleNet::tree, x -> x.change(5)};
+        for (int i = 0; i < taking.length; i++) {
+            p = askedOnce();
+            Due.is("17: a call that is taken, " + i, taking[i].on(p.x()) >= 0 ? 1 : 0, 1);
+            Due.is("17: what was ASKED is gone, " + i, p.x().fit(0), STATE);
+            Due.is("18: what was ASKED is gone, " + i, p.x().fillings(4), STATE);
+            Due.is("19: what was ASKED is gone, " + i, p.x().filling(0, 0, 2), STATE);
+            Due.is("20: what was ASKED is gone, " + i, p.x().asked(4, 0), STATE);
+            Due.is("16: it can be ASKED anew, " + i, p.x().ask() > 0 ? 1 : 0, 1);
+            Due.is("17: ASKED anew, " + i, p.x().fit(0) >= 0 ? 1 : 0, 1);
+        }
     }
 
     private static void promise18() {
